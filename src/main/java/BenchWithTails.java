@@ -270,7 +270,8 @@ public final class BenchWithTails {
         if (k < 0 || k >= jobs.size) {
             return OUTSIDE;
         }
-        layFirstLeast();
+        knowLeast();
+        orders.layFirst(asTold, otherRow);
         return otherRow.jobAt(k);
     }
 
@@ -330,7 +331,8 @@ public final class BenchWithTails {
         if (!isSheet(sheet)) {
             return BAD;
         }
-        layFirstLeast();
+        knowLeast();
+        orders.layFirst(asTold, otherRow);
         Sheet target = sheets[sheet];
         target.become(Sheet.LONGS, jobs.size);
         for (int i = 0; i < jobs.size; i++) {
@@ -530,11 +532,6 @@ public final class BenchWithTails {
         leastToldAt = search.bestAt;
         orders.weigh(asTold, leastFinish);
         leastKnown = true;
-    }
-
-    private void layFirstLeast() {
-        knowLeast();
-        orders.layFirst(asTold, otherRow);
     }
 
     /** Lays the ORDER that a SHEET tells: whether it is one of all JOBS, each once. */
@@ -855,15 +852,15 @@ public final class BenchWithTails {
         }
 
         int comesOf(int job) {
-            return holds(job) ? comes[job] : 0;
+            return job >= 0 && job < size && job < comes.length ? comes[job] : 0;
         }
 
         int takesOf(int job) {
-            return holds(job) ? takes[job] : 0;
+            return job >= 0 && job < size && job < takes.length ? takes[job] : 0;
         }
 
         int coolsOf(int job) {
-            return holds(job) ? cools[job] : 0;
+            return job >= 0 && job < size && job < cools.length ? cools[job] : 0;
         }
 
         int takesOfAll() {
@@ -896,18 +893,14 @@ public final class BenchWithTails {
         int nextToBegin(int done, int hour) {
             int best = NONE;
             for (int i = 0; i < size; i++) {
-                if ((done >> i & 1) == 0 && comes[i] <= hour && (best == NONE || goesAhead(i, best))) {
+                if ((done >> i & 1) != 0 || comes[i] > hour) {
+                    continue;
+                }
+                if (best < 0 || cools[i] > cools[best] || cools[i] == cools[best] && takes[i] > takes[best]) {
                     best = i;
                 }
             }
             return best;
-        }
-
-        private boolean goesAhead(int job, int other) {
-            if (coolsOf(job) != coolsOf(other)) {
-                return coolsOf(job) > coolsOf(other);
-            }
-            return takesOf(job) > takesOf(other);
         }
 
         /** The first hour, from this one on, by which one who is not done has COME. */
@@ -964,6 +957,7 @@ public final class BenchWithTails {
     private static final class Laid {
         private final int[] row;
         private final int[] begins;
+        private final int[] ends;
         private int size;
         private int members;
         private int end;
@@ -973,6 +967,7 @@ public final class BenchWithTails {
         Laid() {
             row = new int[MOST_JOBS];
             begins = new int[MOST_JOBS];
+            ends = new int[MOST_JOBS];
         }
 
         void clear() {
@@ -988,7 +983,7 @@ public final class BenchWithTails {
         }
 
         void append(Load load, int job) {
-            if (!load.holds(job) || size >= row.length || job >= begins.length) {
+            if (!load.holds(job) || size >= row.length || job >= begins.length || job >= ends.length) {
                 return;
             }
             int begin = Math.max(end, load.comesOf(job));
@@ -996,6 +991,7 @@ public final class BenchWithTails {
             end = begin + load.takesOf(job);
             finish = Math.max(finish, end + load.coolsOf(job));
             begins[job] = begin;
+            ends[job] = end;
             members |= 1 << job;
             row[size] = job;
             size++;
@@ -1013,11 +1009,11 @@ public final class BenchWithTails {
         }
 
         int beginOf(int job) {
-            return job >= 0 && job < begins.length && has(job) ? begins[job] : NONE;
+            return job >= 0 && job < begins.length && (members >> job & 1) != 0 ? begins[job] : NONE;
         }
 
-        int endOf(Load load, int job) {
-            return beginOf(job) + load.takesOf(job);
+        int endOf(int job) {
+            return job >= 0 && job < ends.length && (members >> job & 1) != 0 ? ends[job] : NONE;
         }
 
         int laterThan(Laid other) {
@@ -1052,8 +1048,7 @@ public final class BenchWithTails {
         void find(Load load, Laid laid) {
             int lastPlace = placeOfLast(load, laid);
             int firstPlace = lastPlace;
-            while (firstPlace > 0
-                    && laid.beginOf(laid.jobAt(firstPlace)) == laid.endOf(load, laid.jobAt(firstPlace - 1))) {
+            while (firstPlace > 0 && laid.beginOf(laid.jobAt(firstPlace)) == laid.endOf(laid.jobAt(firstPlace - 1))) {
                 firstPlace--;
             }
             last = laid.jobAt(lastPlace);
@@ -1066,7 +1061,7 @@ public final class BenchWithTails {
             int place = NONE;
             for (int k = 0; k < laid.size; k++) {
                 int job = laid.jobAt(k);
-                if (laid.endOf(load, job) + load.coolsOf(job) == laid.finish) {
+                if (laid.endOf(job) + load.coolsOf(job) == laid.finish) {
                     place = k;
                 }
             }
@@ -1360,7 +1355,7 @@ public final class BenchWithTails {
                 return 0;
             }
             int key = left * MOST_HOURS + hour;
-            int slot = left * 37 + hour & SLOTS - 1;
+            int slot = (left * 37 + hour) & (SLOTS - 1);
             if (orders.slotKeys[slot] == key) {
                 return orders.slotWays[slot];
             }
