@@ -54,6 +54,7 @@ public final class HostTests {
             x.sheet(0, 0, 2);
             Check.due("sheet(0, -1, " + n + ")", x.sheet(0, -1, n), 1);
             Check.due("it is missing", x.put(0, 0, 1), MISSING);
+            Check.due("it has no items", x.item(0, 0), NO);
         }
         Check.due("missing once more", x.sheet(0, -1, 0), 1);
     }

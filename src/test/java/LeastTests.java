@@ -15,6 +15,8 @@ public final class LeastTests {
         rowOfTails();
         manyNodes();
         fresh();
+        rowsAreLaidAnew();
+        eachAlone();
         roomIsCut();
         Check.end("LeastTests");
     }
@@ -136,6 +138,38 @@ public final class LeastTests {
         Check.due("gain(0)", x.gain(0), 0);
         Check.all("least after those in thought", 3, what -> x.least(what), 14, 2, 2);
         Check.all("room after those in thought", 2, job -> x.room(job), 8, 0);
+    }
+
+    private static void rowsAreLaidAnew() {
+        BenchWithTails x = of("p0,1,2;p0,1,1;p0,1,3");
+        Check.all("order", 3, k -> x.order(k), 2, 0, 1);
+        Check.all("order again", 3, k -> x.order(k), 2, 0, 1);
+        x.sheet(0, 1, 3);
+        x.put(0, 0, 1);
+        x.put(0, 2, 2);
+        Check.due("judge of 1 0 2", x.judge(0, 0), 6);
+        Check.all("order after judge", 3, k -> x.order(k), 2, 0, 1);
+        x.set(1, 3, 9);
+        Check.all("order after set", 3, k -> x.order(k), 1, 0, 2);
+        x.judge(0, 0);
+        x.film(1);
+        Check.all("film after judge", 3, k -> x.item(1, k), 1, 0, 2);
+        x.drop(0);
+        Check.all("order after drop", 2, k -> x.order(k), 0, 1);
+    }
+
+    /** Each of these as the first call after JOBS are told. */
+    private static void eachAlone() {
+        String text = "p0,5,1;p2,2,10";
+        Check.due("many() first", of(text).many(), 1);
+        Check.due("order(0) first", of(text).order(0), 1);
+        Check.due("must(0) first", of(text).must(0), 2);
+        Check.due("room(0) first", of(text).room(0), 8);
+        Check.due("gain(1) first", of(text).gain(1), 8);
+        Check.due("least(2) first", of(text).least(2), 2);
+        BenchWithTails x = of(text);
+        x.film(0);
+        Check.due("film first", x.item(0, 0), 4);
     }
 
     private static void roomIsCut() {

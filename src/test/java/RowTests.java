@@ -134,6 +134,11 @@ public final class RowTests {
         BenchWithTails rows = of("p0,2,0;p2,2,0;p3,1,9;p4,4,9");
         // 0: 0-2, 1: 2-4, 3: 4-8 (9), 2: 8-9 (9): LAST is 2, BAR is 1, BEHIND are 3 and 2.
         Check.all("BAR is the last one that COOLS shorter", 5, what -> rows.critical(what), 2, 0, 1, 12, 4);
+        rows.set(1, 3, 9);
+        // 0: 0-2, 1: 2-4 (9), 3: 4-8 (9), 2: 8-9 (9).
+        Check.all("all is found anew", 5, what -> rows.critical(what), 2, 0, 0, 14, 4);
+        rows.set(2, 3, 0);
+        Check.all("all is found anew", 5, what -> rows.critical(what), 3, 0, 0, 10, 3);
         BenchWithTails behind = of("p0,4,0;p1,4,9;p2,3,9;p2,1,0");
         // 0: 0-4, 1: 4-8, 2: 8-11 (20), 3: 11-12: the one behind LAST is not of the BLOCK.
         Check.all("the BLOCK goes up to LAST", 5, what -> behind.critical(what), 2, 0, 0, 6, 3);
