@@ -1130,8 +1130,9 @@ public final class BenchWithTails {
     /** SEARCH: the NODES that are open stand in rows, a level each. */
     private static final class Search {
         /**
-         * In each NODE but the first a JOB's COMES, TAKES and COOLS together are less than BEST (it is
-         * no NODE else), so than 413; each BRANCH raises this sum for its BAR by 2 at least: 8 * 206.
+         * No more can be open at once: in a NODE the hour at which a JOB COMES, what it TAKES and what
+         * it COOLS are together 412 at most (less than BEST, or as told), and each BRANCH makes this
+         * sum 2 more at least for its BAR: 8 JOBS by 206.
          */
         private static final int MOST_LEVELS = 1650;
         private static final int MOST_STEPS = 1000000;
