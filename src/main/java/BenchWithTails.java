@@ -678,7 +678,7 @@ public final class BenchWithTails {
         }
 
         void add(int v) {
-            if (hasRoom(1)) {
+            if (size >= 0 && size < bytes.length) {
                 bytes[size] = v;
                 size++;
             }
@@ -688,7 +688,7 @@ public final class BenchWithTails {
             size = 0;
         }
 
-        /** Reads all ITEMS: the place of the FAULT, or NONE. */
+        /** Reads all ITEMS (in 60 bytes there are 8 at most, so all have room): the place of the FAULT, or NONE. */
         int readItems(Jobs items) {
             items.clear();
             place = 0;
@@ -823,7 +823,7 @@ public final class BenchWithTails {
             if (!holds(job)) {
                 return;
             }
-            for (int i = job; i < size - 1; i++) {
+            for (int i = job; i < size - 1 && i < MOST_JOBS - 1; i++) {
                 comes[i] = comes[i + 1];
                 takes[i] = takes[i + 1];
                 cools[i] = cools[i + 1];
@@ -839,7 +839,7 @@ public final class BenchWithTails {
             int z = seed;
             for (int i = 0; i < size; i++) {
                 z = z * 1103515245 + 12345;
-                comes[i] += (z >>> 9) % (n + 1);
+                changeComes(i, comesOf(i) + (z >>> 9) % (n + 1));
             }
         }
 
@@ -866,7 +866,7 @@ public final class BenchWithTails {
         int takesOfAll() {
             int sum = 0;
             for (int i = 0; i < size; i++) {
-                sum += takes[i];
+                sum += takesOf(i);
             }
             return sum;
         }
@@ -893,10 +893,11 @@ public final class BenchWithTails {
         int nextToBegin(int done, int hour) {
             int best = NONE;
             for (int i = 0; i < size; i++) {
-                if ((done >> i & 1) != 0 || comes[i] > hour) {
+                if ((done >> i & 1) != 0 || comesOf(i) > hour) {
                     continue;
                 }
-                if (best < 0 || cools[i] > cools[best] || cools[i] == cools[best] && takes[i] > takes[best]) {
+                if (best == NONE || coolsOf(i) > coolsOf(best)
+                        || coolsOf(i) == coolsOf(best) && takesOf(i) > takesOf(best)) {
                     best = i;
                 }
             }
@@ -907,8 +908,8 @@ public final class BenchWithTails {
         int hourOfSome(int done, int hour) {
             int first = NONE;
             for (int i = 0; i < size; i++) {
-                if ((done >> i & 1) == 0 && (first == NONE || comes[i] < first)) {
-                    first = comes[i];
+                if ((done >> i & 1) == 0 && (first == NONE || comesOf(i) < first)) {
+                    first = comesOf(i);
                 }
             }
             return Math.max(first, hour);
@@ -918,8 +919,8 @@ public final class BenchWithTails {
         int hourOfLonger(int job, int hour, int end) {
             int first = end;
             for (int i = 0; i < size; i++) {
-                if (comes[i] > hour && comes[i] < first && cools[i] > coolsOf(job)) {
-                    first = comes[i];
+                if (comesOf(i) > hour && comesOf(i) < first && coolsOf(i) > coolsOf(job)) {
+                    first = comesOf(i);
                 }
             }
             return first;
@@ -931,9 +932,9 @@ public final class BenchWithTails {
             int cool = NONE;
             for (int i = 0; i < size; i++) {
                 if ((set >> i & 1) != 0) {
-                    come = come == NONE || comes[i] < come ? comes[i] : come;
-                    take += takes[i];
-                    cool = cool == NONE || cools[i] < cool ? cools[i] : cool;
+                    come = come == NONE ? comesOf(i) : Math.min(come, comesOf(i));
+                    take += takesOf(i);
+                    cool = cool == NONE ? coolsOf(i) : Math.min(cool, coolsOf(i));
                 }
             }
             return come + take + cool;
@@ -1181,7 +1182,7 @@ public final class BenchWithTails {
                 bestAt = nodes;
             }
             block.find(load, laid);
-            if (block.bar != NONE && levels < MOST_LEVELS) {
+            if (block.bar != NONE && levels >= 0 && levels < MOST_LEVELS) {
                 bars[levels] = block.bar;
                 sides[levels] = 0;
                 cools[levels] = block.coolsThen;

@@ -1,5 +1,8 @@
+import java.util.function.Consumer;
 import java.util.function.IntSupplier;
-import java.util.function.LongSupplier;
+import java.util.function.IntToLongFunction;
+import java.util.function.Supplier;
+import java.util.function.ToLongFunction;
 
 /** Counts what is as due, and prints what is not. */
 final class Check {
@@ -27,35 +30,33 @@ final class Check {
         due(call, got.equals(want) ? 1 : 0, 1);
     }
 
-    /** A refused call answers what is due and changes nothing that can be seen. */
-    static void refused(BenchWithTails x, String call, LongSupplier run, long want) {
-        String was = State.of(x);
-        due(call, run.getAsLong(), want);
-        due("the state after " + call, State.of(x), was);
-    }
-
-    /** Feeds a text whole; answers what text() answers. */
-    static int read(BenchWithTails x, String text) {
-        for (int i = 0; i < text.length(); i++) {
-            due("feed of " + text, x.feed(1, text.charAt(i), 0, 0, 0, 0), x.count(2));
-        }
-        return x.text();
-    }
-
-    static void text(BenchWithTails x, String text, int want) {
-        due("text() of \"" + text + "\"", read(x, text), want);
-        due("THE TAPE after \"" + text + "\"", x.count(2), 0);
-    }
-
-    static void all(String call, int n, IntFunctionOfInt run, int... want) {
-        due(call + ": how many", n, want.length);
+    /** As many as are wanted, from number 0 on. */
+    static void all(String call, IntToLongFunction run, long... want) {
         for (int i = 0; i < want.length; i++) {
-            due(call + " " + i, run.at(i), want[i]);
+            due(call + " " + i, run.applyAsLong(i), want[i]);
         }
     }
 
-    interface IntFunctionOfInt {
-        long at(int i);
+    /**
+     * A refused call answers what is due and changes nothing: of two objects made alike the one that
+     * had the call tells the same of itself as the other.
+     */
+    static void refused(Supplier<BenchWithTails> scene, String call, ToLongFunction<BenchWithTails> run, long want) {
+        changesNothing(scene, call, x -> due(call, run.applyAsLong(x), want));
+    }
+
+    /** What is only in thought, or only answers, changes nothing. */
+    static void changesNothing(Supplier<BenchWithTails> scene, String calls, Consumer<BenchWithTails> run) {
+        BenchWithTails x = scene.get();
+        run.accept(x);
+        due("the state after " + calls, State.of(x), State.of(scene.get()));
+    }
+
+    /** What text() answers to a text; THE TAPE is empty then, whatever it was. */
+    static void text(BenchWithTails x, String text, int want) {
+        Scenes.feed(x, text);
+        due("text() of \"" + text + "\"", x.text(), want);
+        due("THE TAPE after \"" + text + "\"", x.count(2), 0);
     }
 
     static int times(int n, IntSupplier run) {

@@ -10,6 +10,7 @@ import java.util.Arrays;
 import java.util.List;
 import java.util.Random;
 import java.util.TreeSet;
+import java.util.regex.Pattern;
 
 /** The whole face and nothing else; calls of any arguments in any state; what LANGUAGE.md leaves. */
 public final class FaceTests {
@@ -79,6 +80,7 @@ public final class FaceTests {
             faceNames.add(call.split(" ")[1]);
         }
         Class<?>[] classes = BenchWithTails.class.getDeclaredClasses();
+        Check.due("some twenty fields", stateOf(BenchWithTails.class) <= 20 ? 1 : 0, 1);
         Check.due("some twelve classes", classes.length <= 11 ? 1 : 0, 1);
         for (Class<?> c : classes) {
             Check.due(c + " is static", Modifier.isStatic(c.getModifiers()) ? 1 : 0, 1);
@@ -87,6 +89,7 @@ public final class FaceTests {
                 Check.due(m + " has a name of its own", faceNames.contains(m.getName()) ? 1 : 0, 0);
                 Check.due(m + " has few arguments", m.getParameterCount() <= 7 ? 1 : 0, 1);
             }
+            Check.due(c + " has some twenty fields", stateOf(c) <= 20 ? 1 : 0, 1);
             for (Field f : c.getDeclaredFields()) {
                 boolean free = Modifier.isStatic(f.getModifiers()) && !Modifier.isFinal(f.getModifiers());
                 Check.due(f + " is no static state", free ? 1 : 0, 0);
@@ -94,15 +97,34 @@ public final class FaceTests {
         }
     }
 
+    private static int stateOf(Class<?> c) {
+        int fields = 0;
+        for (Field f : c.getDeclaredFields()) {
+            fields += Modifier.isStatic(f.getModifiers()) ? 0 : 1;
+        }
+        return fields;
+    }
+
     private static void language() throws IOException {
         String source = Files.readString(Path.of("src/main/java/BenchWithTails.java"));
         String code = source.replaceAll("(?s)/\\*.*?\\*/", "").replaceAll("//.*", "");
-        String[] never = {"->", "::", "\\bcatch\\b", "\\bfinally\\b", "\\bthrow\\b", "\\bassert\\b", "\\bsynchronized\\b",
-            "\\bstatic\\s*\\{", "\\bprotected\\b", "^package", "\\binstanceof\\b", "Exact\\b", "\\bdouble\\b", "\"",
-            "import (?!java\\.util\\.Arrays;)", "[^\\x00-\\x7f]"};
+        String[] never = {"->", "::", "\\bcatch\\b", "\\bfinally\\b", "\\bthrow\\b", "\\bassert\\b",
+            "\\bsynchronized\\b", "\\bstatic\\s*\\{", "\\bprotected\\b", "^package", "\\binstanceof\\b",
+            "Exact\\b", "\\bdouble\\b", "\"", "import (?!java\\.util\\.Arrays;)", "[^\\x00-\\x7f]"};
         for (String sign : never) {
-            boolean found = java.util.regex.Pattern.compile(sign, java.util.regex.Pattern.MULTILINE).matcher(code).find();
+            boolean found = Pattern.compile(sign, Pattern.MULTILINE).matcher(code).find();
             Check.due(sign + " in the code", found ? 1 : 0, 0);
+        }
+        methodsAreShort(source);
+    }
+
+    private static void methodsAreShort(String source) {
+        int since = 0;
+        for (String line : source.split("\n")) {
+            since = line.matches("( {4}| {8})(public|private|static|void|int|boolean|long)\\b.*\\{") ? 0 : since + 1;
+            if (line.matches("( {4}| {8})\\}")) {
+                Check.due("lines of the method that ends with " + line, since <= 60 ? 1 : 0, 1);
+            }
         }
     }
 
@@ -162,7 +184,7 @@ public final class FaceTests {
         Random random = new Random(3);
         for (int run = 0; run < 1500; run++) {
             BenchWithTails x = new BenchWithTails();
-            for (int n = 0; n < 512; n++) {
+            for (int n = 0; n < 400; n++) {
                 try {
                     call(x, random);
                 } catch (RuntimeException thrown) {
@@ -179,16 +201,16 @@ public final class FaceTests {
     /** All calls of a run live in one room: none of them makes an object. */
     private static void noObjects() {
         var threads = (com.sun.management.ThreadMXBean) java.lang.management.ManagementFactory.getThreadMXBean();
-        BenchWithTails x = new BenchWithTails();
-        long used = 0;
-        for (int round = 0; round < 2; round++) {
+        long least = Long.MAX_VALUE;
+        for (int run = 0; run < 20; run++) {
+            BenchWithTails x = new BenchWithTails();
             long was = threads.getCurrentThreadAllocatedBytes();
-            for (int n = 0; n < 400; n++) {
+            for (int n = 0; n < 20; n++) {
                 dearCalls(x, n);
             }
-            used = threads.getCurrentThreadAllocatedBytes() - was;
+            least = Math.min(least, threads.getCurrentThreadAllocatedBytes() - was);
         }
-        Check.due("bytes that 400 rounds of calls took: " + used, used < 20000 ? 1 : 0, 1);
+        Check.due("bytes that 20 rounds of calls took: " + least, least < 500 ? 1 : 0, 1);
     }
 
     private static void dearCalls(BenchWithTails x, int n) {

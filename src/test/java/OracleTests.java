@@ -10,44 +10,50 @@ public final class OracleTests {
     public static void main(String[] args) {
         Random random = new Random(20261119);
         for (int run = 0; run < 600; run++) {
-            BenchWithTails x = draw(random, run % 6, run % 5);
-            Oracle oracle = Oracle.of(x);
-            String jobs = State.of(x);
-            rows(x, oracle, jobs);
-            least(x, oracle, jobs);
-            leastOrders(x, oracle, jobs);
-            thoughts(x, oracle, jobs, random);
-            told(x, oracle, jobs, random);
-            truth(x, oracle, jobs);
+            String jobs = draw(random, run % 6, run % 5);
+            Oracle oracle = Oracle.of(made(jobs));
+            rows(made(jobs), oracle, jobs);
+            least(made(jobs), oracle, jobs);
+            leastOrders(made(jobs), oracle, jobs);
+            thoughts(made(jobs), oracle, jobs, random);
+            told(made(jobs), oracle, jobs, random);
+            truth(made(jobs), oracle, jobs);
         }
         for (int run = 0; run < 3000; run++) {
-            BenchWithTails x = draw(random, 5 + run % 4, run % 5);
-            Oracle oracle = Oracle.of(x);
-            String jobs = State.of(x);
-            rows(x, oracle, jobs);
-            least(x, oracle, jobs);
-            truth(x, oracle, jobs);
+            String jobs = draw(random, 5 + run % 4, run % 5);
+            Oracle oracle = Oracle.of(made(jobs));
+            rows(made(jobs), oracle, jobs);
+            least(made(jobs), oracle, jobs);
+            truth(made(jobs), oracle, jobs);
         }
         for (int run = 0; run < 40; run++) {
-            BenchWithTails x = draw(random, 6 + run % 3, run % 5);
-            leastOrders(x, Oracle.of(x), State.of(x));
+            String jobs = draw(random, 6 + run % 3, run % 5);
+            leastOrders(made(jobs), Oracle.of(made(jobs)), jobs);
+        }
+        for (int run = 0; run < 300; run++) {
+            anew(made(draw(random, run % 9, run % 5)), random);
         }
         Check.end("OracleTests");
     }
 
-    /** Jobs of several tempers: far apart, close together, alike, with tails that matter. */
-    private static BenchWithTails draw(Random random, int n, int temper) {
+    /** ITEMS of JOBS of several tempers: far apart, close together, alike, with tails that matter. */
+    private static String draw(Random random, int n, int temper) {
         int[] releases = {60, 20, 6, 30, 40};
         int[] works = {20, 8, 3, 6, 10};
         int[] tails = {60, 20, 3, 40, 50};
-        BenchWithTails x = new BenchWithTails();
+        StringBuilder items = new StringBuilder();
         for (int i = 0; i < n; i++) {
-            int kind = temper == 2 ? random.nextInt(2) : random.nextInt(6);
-            x.job(kind, random.nextInt(releases[temper] + 1), 1 + random.nextInt(works[temper]),
-                    random.nextInt(tails[temper] + 1));
+            items.append(i == 0 ? "" : ";");
+            items.append("prhdms".charAt(temper == 2 ? random.nextInt(2) : random.nextInt(6)));
+            items.append(random.nextInt(releases[temper] + 1)).append(',');
+            items.append(1 + random.nextInt(works[temper])).append(',');
+            items.append(random.nextInt(tails[temper] + 1));
         }
-        Check.due("jobs drawn", x.count(0), n);
-        return x;
+        return items.toString();
+    }
+
+    private static BenchWithTails made(String items) {
+        return items.isEmpty() ? new BenchWithTails() : Scenes.of(items);
     }
 
     private static void rows(BenchWithTails x, Oracle oracle, String jobs) {
@@ -161,7 +167,7 @@ public final class OracleTests {
         List<Integer> order = oracle.greedy();
         int[] begins = oracle.begins(order);
         int step = 1 + oracle.n * 2;
-        for (int now = step; now < 300; now += step) {
+        for (int now = step; now <= 30 * step; now += step) {
             Check.due("go to " + now + " " + jobs, x.go(step), now);
             int at = -1;
             int ended = 0;
@@ -179,5 +185,62 @@ public final class OracleTests {
             Check.due("bench(2) at " + now + " " + jobs, x.bench(2), ended);
             Check.due("bench(3) at " + now + " " + jobs, x.bench(3), now - worked);
         }
+    }
+
+    /** An object whose JOBS change again and again answers as one that was told them at once. */
+    private static void anew(BenchWithTails x, Random random) {
+        for (int change = 0; change < 4; change++) {
+            change(x, random);
+            String jobs = State.jobs(x);
+            String items = jobs.trim().replace(' ', ';');
+            Check.due("answers of " + jobs, answers(x), answers(made(items)));
+        }
+    }
+
+    private static void change(BenchWithTails x, Random random) {
+        int job = random.nextInt(8);
+        switch (random.nextInt(6)) {
+            case 0:
+                x.drop(job);
+                break;
+            case 1:
+                x.job(random.nextInt(6), random.nextInt(30), 1 + random.nextInt(20), random.nextInt(30));
+                break;
+            case 2:
+                Scenes.feed(x, "m3,4,5;p1,2,3");
+                x.text();
+                break;
+            case 3:
+                x.image();
+                x.set(job, 0, random.nextInt(6));
+                break;
+            case 4:
+                x.back();
+                x.set(job, 1, random.nextInt(61));
+                break;
+            default:
+                x.set(job, 2, 1 + random.nextInt(20));
+                x.set(job, 3, random.nextInt(61));
+                break;
+        }
+    }
+
+    private static String answers(BenchWithTails x) {
+        StringBuilder seen = new StringBuilder();
+        for (int what = 0; what < 5; what++) {
+            seen.append(x.greedy(-1, what)).append(' ').append(x.breaking(what)).append(' ');
+            seen.append(x.critical(what)).append(' ').append(x.strongest(what)).append(' ');
+            seen.append(x.branch(0, what)).append(' ').append(x.branch(1, what)).append(' ');
+        }
+        for (int job = 0; job < 8; job++) {
+            seen.append(x.must(job)).append(' ').append(x.room(job)).append(' ').append(x.gain(job)).append(' ');
+            seen.append(x.greedy(job, 0)).append(' ').append(x.order(job)).append(' ');
+        }
+        seen.append(x.many()).append(' ').append(x.drawn(5, 30)).append(' ');
+        seen.append(x.chance(5, 8, 30, 99, 0)).append(' ');
+        for (int what = 0; what < 3; what++) {
+            seen.append(x.least(what)).append(' ');
+        }
+        return seen.toString();
     }
 }
