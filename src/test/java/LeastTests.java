@@ -234,6 +234,8 @@ public final class LeastTests {
         gainIs("p0,1,2;p0,1,1;p0,1,3;p0,1,0", 0, 0, 1, 0);
         gainIs("p0,2,0;p0,2,0;p3,2,2", 0, 0, 3);
         gainIs("p0,9,0;p3,2,20", 0, 16);
+        gainIs("p0,1,0;p0,1,1;p0,1,2;p0,1,3;p0,1,4;p0,1,5;p0,1,6;p0,1,20", 0, 0, 0, 0, 0, 0, 0, 14);
+        gainIs("p0,1,20;p0,1,6;p0,1,5;p0,1,4;p0,1,3;p0,1,2;p0,1,1;p0,1,0", 14, 0, 0, 0, 0, 0, 0, 0);
         Check.all("gain of eight alike", job -> Scenes.eightAlike().gain(job), 1, 1, 1, 1, 1, 1, 1, 1);
         Check.all("gain of eight", job -> Scenes.eightGreatest().gain(job), 25, 25, 25, 25, 25, 25, 25, 25);
     }
